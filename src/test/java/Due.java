@@ -1,0 +1,53 @@
+import java.util.List;
+import java.util.ArrayList;
+
+/** What a test is due: it collects the answers that are not, and tells them at the end. */
+final class Due {
+    private final List<String> wrong = new ArrayList<>();
+    private int asked = 0;
+
+    void is(String what, int got, int want) {
+        asked++;
+        if (got != want) {
+            wrong.add(what + " answered " + got + ", due is " + want);
+        }
+    }
+
+    void isTrue(String what, boolean holds) {
+        asked++;
+        if (!holds) {
+            wrong.add(what);
+        }
+    }
+
+    /** Ends the test: exit code 1 if an answer was not the one that is due. */
+    void end() {
+        for (String line : wrong) {
+            System.out.println(line);
+        }
+        System.out.println(asked + " answers, " + wrong.size() + " not as due");
+        if (!wrong.isEmpty()) {
+            System.exit(1);
+        }
+    }
+
+    static DummyInches street(String text) {
+        DummyInches x = new DummyInches();
+        read(x, text);
+        return x;
+    }
+
+    static int read(DummyInches x, String text) {
+        for (int i = 0; i < text.length(); i++) {
+            x.feed(text.charAt(i));
+        }
+        return x.street();
+    }
+
+    static void lay(DummyInches x, int row, int... items) {
+        x.row(row, 2, items.length);
+        for (int i = 0; i < items.length; i++) {
+            x.set(row, i, items[i]);
+        }
+    }
+}
