@@ -1,5 +1,5 @@
-import java.util.List;
 import java.util.ArrayList;
+import java.util.List;
 
 /** What a test is due: it collects the answers that are not, and tells them at the end. */
 final class Due {
@@ -20,6 +20,10 @@ final class Due {
         }
     }
 
+    int asked() {
+        return asked;
+    }
+
     /** Ends the test: exit code 1 if an answer was not the one that is due. */
     void end() {
         for (String line : wrong) {
@@ -28,26 +32,6 @@ final class Due {
         System.out.println(asked + " answers, " + wrong.size() + " not as due");
         if (!wrong.isEmpty()) {
             System.exit(1);
-        }
-    }
-
-    static DummyInches street(String text) {
-        DummyInches x = new DummyInches();
-        read(x, text);
-        return x;
-    }
-
-    static int read(DummyInches x, String text) {
-        for (int i = 0; i < text.length(); i++) {
-            x.feed(text.charAt(i));
-        }
-        return x.street();
-    }
-
-    static void lay(DummyInches x, int row, int... items) {
-        x.row(row, 2, items.length);
-        for (int i = 0; i < items.length; i++) {
-            x.set(row, i, items[i]);
         }
     }
 }
