@@ -110,6 +110,24 @@ public final class Promise10TellTest extends Promise {
         return x;
     }
 
+    /** What the rival adds to the customer the valet takes away: the inches alone go down. */
+    private static DummyInches down(int pairs) {
+        DummyInches x = Made.street("w2;d0,0,0;r0;v0;");
+        for (int n = 0; n < pairs; n++) {
+            x.tell(0, 0, 0, 99);
+            x.tell(1, 0, 0, -99);
+        }
+        return x;
+    }
+
+    void inchesAloneGoToMinus999() {
+        DummyInches x = down(5);
+        is("the customer", x.dummy(0, 0, 2), 0);
+        is("-999", x.tell(0, 0, 0, 9), -999);
+        refused("-1000", () -> down(5), y -> y.tell(0, 0, 0, 10), FULL);
+        refused("-1000 by the valet", () -> down(5), y -> y.tell(1, 0, 0, -10), FULL);
+    }
+
     void inchesGoBeyondByARivalToo() {
         DummyInches x = told("w2;d0,0,0;r0;", 10, 99);
         is("-990", x.dummy(0, 0, 0), -990);

@@ -20,6 +20,18 @@ public final class Promise17WasTest extends Promise {
         is("it is", x.dummy(0, 0, 0), 18);
     }
 
+    void eachDummyAtEachPlace() {
+        DummyInches x = Made.street("w2;d0,0,0;d0,0,0;d0,0,0;d0,0,0;v0;");
+        for (int k = 0; k < 12; k++) {
+            x.tell(0, k / 3, k % 3, 10 + k);
+        }
+        for (int k = 0; k < 12; k++) {
+            is("ahead of its line", x.was(k, k / 3, k % 3), 0);
+            is("behind its line", x.was(k + 1, k / 3, k % 3), 10 + k);
+            is("behind all", x.was(12, k / 3, k % 3), 10 + k);
+        }
+    }
+
     void nIs0ToTheLines() {
         DummyInches x = Made.fullLog();
         is("0", x.was(0, 1, 1), 35);

@@ -1,7 +1,10 @@
 import java.util.ArrayList;
 import java.util.List;
 
-/** All that an object holds but its status, read by its calls; the object is used up by it. */
+/**
+ * All that an object holds but its status, read by its calls; the object is used up by it. With what
+ * Made does before, this stays below the 512 calls for which an object is promised anything.
+ */
 final class Reading {
     private final DummyInches x;
     private final List<String> read = new ArrayList<>();
@@ -31,8 +34,10 @@ final class Reading {
             note("count " + what, x.count(what));
         }
         note("fault", x.fault());
-        for (int i = 0; i == 0 || x.trace(i - 1) != DummyInches.NONE; i++) {
-            note("trace " + i, x.trace(i));
+        int body = x.trace(0);
+        for (int i = 1; body != DummyInches.NONE; i++) {
+            note("trace", body);
+            body = x.trace(i);
         }
         for (int row = 0; row < 8; row++) {
             note("row " + row, x.copy(row, 0, row, 0, 0));
@@ -40,12 +45,14 @@ final class Reading {
     }
 
     private void street() {
-        for (int dummy = 0; dummy < x.count(1); dummy++) {
+        int dummies = x.count(1);
+        for (int dummy = 0; dummy < dummies; dummy++) {
             for (int k = 0; k < 9; k++) {
                 note("dummy " + dummy + " " + k, x.dummy(dummy, k / 3, k % 3));
             }
         }
-        for (int line = 0; line < x.count(3); line++) {
+        int lines = x.count(3);
+        for (int line = 0; line < lines; line++) {
             for (int what = 0; what < 6; what++) {
                 note("line " + line + " " + what, x.line(line, what));
             }
@@ -54,7 +61,8 @@ final class Reading {
 
     /** Their kinds, and asks that tell their bribes and numbers. */
     private void mouths() {
-        for (int mouth = 0; mouth < x.count(2); mouth++) {
+        int mouths = x.count(2);
+        for (int mouth = 0; mouth < mouths; mouth++) {
             note("kind " + mouth, x.kind(mouth));
             note("size " + mouth, x.ask(mouth, 0));
             note("mark " + mouth, x.ask(mouth, 1));
@@ -81,7 +89,8 @@ final class Reading {
         for (int k = 0; k < 2; k++) {
             note("restored " + k, x.restore(k));
             note("lines", x.count(3));
-            for (int dummy = 0; dummy < x.count(1); dummy++) {
+            int dummies = x.count(1);
+            for (int dummy = 0; dummy < dummies; dummy++) {
                 for (int place = 0; place < 3; place++) {
                     note("image " + dummy + " " + place, x.dummy(dummy, place, 0));
                 }
