@@ -42,6 +42,7 @@ public final class LanguageTest {
                 due.isTrue(method + " answers an int", method.getReturnType() == int.class);
             }
             due.isTrue(method + " is public or private", isPublic || Modifier.isPrivate(method.getModifiers()));
+            due.isTrue(method + " has a name of the face", isPublic || !namesOfTheFace().contains(method.getName()));
         }
         due.isTrue("the methods are " + methods, methods.equals(FACE));
         Set<String> constants = new TreeSet<>();
@@ -56,11 +57,16 @@ public final class LanguageTest {
         due.isTrue("public and final", Modifier.isPublic(face.getModifiers()) && Modifier.isFinal(face.getModifiers()));
     }
 
+    private static Set<String> namesOfTheFace() {
+        Set<String> names = new TreeSet<>();
+        FACE.forEach(method -> names.add(method.substring(0, method.indexOf(' '))));
+        return names;
+    }
+
     private static void classesInside(Due due) {
         Class<?>[] inside = DummyInches.class.getDeclaredClasses();
         due.isTrue("at most twelve classes: " + (inside.length + 1), inside.length < 12);
-        Set<String> names = new TreeSet<>();
-        FACE.forEach(method -> names.add(method.substring(0, method.indexOf(' '))));
+        Set<String> names = namesOfTheFace();
         for (Class<?> one : inside) {
             due.isTrue(one + " is static", Modifier.isStatic(one.getModifiers()));
             long fields = Arrays.stream(one.getDeclaredFields())
